@@ -650,6 +650,16 @@ public final class OrderlyNets {
             return farthest;
         }
 
+        /** NONE of an empty set. */
+        static int lowest(int set) {
+            for (int bit = 0; bit < 31; bit++) {
+                if ((set >> bit & 1) == 1) {
+                    return bit;
+                }
+            }
+            return NONE;
+        }
+
         /** Bit by bit, of how many nodes there are circles. */
         int circles() {
             int found = 0;
@@ -660,8 +670,7 @@ public final class OrderlyNets {
         }
 
         int shortestCircle() {
-            int found = circles();
-            return found == 0 ? 0 : Integer.numberOfTrailingZeros(found);
+            return Math.max(0, lowest(circles()));
         }
 
         private int closeFrom(int first, int last, int used, int length) {
@@ -788,7 +797,7 @@ public final class OrderlyNets {
         private int leastLike(int node) {
             for (int place = 0; place < nodes; place++) {
                 if ((seenAt(place) >> node & 1) == 1) {
-                    return Integer.numberOfTrailingZeros(seenAt(place));
+                    return Sketch.lowest(seenAt(place));
                 }
             }
             return node;
@@ -838,13 +847,14 @@ public final class OrderlyNets {
             symmetries++;
             int bit = allBits;
             for (int place = 0; place < nodes && isStudy; place++) {
-                int node = nodeAt(order, place);
+                long node = order >> 3 * place & 7;
+                long firstNode = firstOrder >> 3 * place & 7;
                 seen |= 1L << 6 * place + node;
                 bit--;
                 for (int earlier = 0; earlier < place; earlier++) {
                     bit--;
-                    int ends = 1 << nodeAt(order, earlier) | 1 << node;
-                    int firstEnds = 1 << nodeAt(firstOrder, earlier) | 1 << nodeAt(firstOrder, place);
+                    long ends = 1L << node | 1L << (order >> 3 * earlier & 7);
+                    long firstEnds = 1L << firstNode | 1L << (firstOrder >> 3 * earlier & 7);
                     if ((code >> bit & 1) == 1 && ends == firstEnds) {
                         stillEdges++;
                     }

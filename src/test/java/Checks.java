@@ -1,7 +1,7 @@
 /** What the tests of the project share: answers held against those that are due, and texts put on the tape. */
 final class Checks {
     interface Call {
-        long run();
+        Object run();
     }
 
     private static int made;
