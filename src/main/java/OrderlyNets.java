@@ -750,7 +750,7 @@ public final class OrderlyNets {
             study(n, code);
             int found = 0;
             for (int node = 0; node < nodes; node++) {
-                if (leastLike(node) == node) {
+                if (leastSeenWith(node) == node) {
                     found++;
                 }
             }
@@ -759,7 +759,7 @@ public final class OrderlyNets {
 
         int leastLike(int n, int code, int node) {
             study(n, code);
-            return leastLike(node);
+            return leastSeenWith(node);
         }
 
         int lastNodes(int n, int code) {
@@ -794,7 +794,7 @@ public final class OrderlyNets {
             return (int) (seen >> 6 * place) & 63;
         }
 
-        private int leastLike(int node) {
+        private int leastSeenWith(int node) {
             for (int place = 0; place < nodes; place++) {
                 if ((seenAt(place) >> node & 1) == 1) {
                     return Sketch.lowest(seenAt(place));

@@ -13,6 +13,8 @@ public final class TextTests {
         wrongNets();
         wrongTextsLeaveAll();
         otherBytes();
+        wordsLetterByLetter();
+        longTexts();
         Checks.end("TextTests");
     }
 
@@ -64,6 +66,11 @@ public final class TextTests {
         wrongKind("|node 3");
         wrongKind("|nodesx 3");
         wrongKind("|Nodes 3");
+        wrongKind("|nodesz 3");
+        wrongKind("|nodesa 3");
+        wrongKind("nodes 3 |darkz");
+        wrongKind("nodes 3 |zdark");
+        wrongKind("nodes 3 |adark");
         wrongKind(" |3");
         wrongKind("|;");
         wrongKind("nodes|");
@@ -283,5 +290,53 @@ public final class TextTests {
                 Checks.due("fault of byte " + octet, x.fault(), octet >= '0' && octet <= '9' ? 6 : 7);
             }
         }
+    }
+
+    /** A word is one just if all its letters are right, and no more come. */
+    private static void wordsLetterByLetter() {
+        String[] lines = {
+            "|most 2", "|free 3", "|even", "|forest", "|unlike", "|without 2", "|end joined",
+            "end |joined", "end |edges 1 to 2", "end edges 1 |to 2", "end |least 1",
+        };
+        for (String line : lines) {
+            int at = line.indexOf('|') + 1;
+            int behind = at;
+            while (behind < line.length() && line.charAt(behind) != ' ') {
+                char other = line.charAt(behind) == 'q' ? 'k' : 'q';
+                wrongKind("nodes 3 dark;" + line.substring(0, behind) + other + line.substring(behind + 1));
+                behind++;
+            }
+            wrongKind("nodes 3 dark;" + line.substring(0, behind) + "z" + line.substring(behind));
+            wrongKind("nodes 3 dark;" + line.substring(0, behind - 1) + line.substring(behind));
+        }
+        for (int i = 0; i < 5; i++) {
+            wrongKind("|" + "nodes".substring(0, i) + "q" + "nodes".substring(i + 1) + " 3");
+        }
+        for (int i = 0; i < 4; i++) {
+            wrongKind("nodes 3 |" + "dark".substring(0, i) + "q" + "dark".substring(i + 1));
+            wrongNet("nodes 3 dark", "net 3 |" + "dark".substring(0, i) + "q" + "dark".substring(i + 1) + " 1");
+        }
+        for (int i = 0; i < 3; i++) {
+            wrongNet("nodes 3", "|" + "net".substring(0, i) + "q" + "net".substring(i + 1) + " 3");
+        }
+    }
+
+    private static void longTexts() {
+        String blanks = " ".repeat(400);
+        rightKind(blanks.substring(7) + "nodes 4", 11, 0, 0);
+        rightKind("nodes 4" + blanks.substring(7), 11, 0, 0);
+        wrongKind(blanks + "|");
+        wrongKind("nodes 3;" + blanks.substring(8) + "|");
+        wrongKind("nodes" + blanks.substring(6) + "|7");
+        StringBuilder all = new StringBuilder("net 6:");
+        for (int a = 0; a < 6; a++) {
+            for (int b = 0; b < a; b++) {
+                all.append(a == 1 ? "" : ",").append(a).append(' ').append(b);
+            }
+        }
+        rightNet("nodes 6", all.toString(), 155, 0b0_01_011_0111_01111_011111);
+        wrongNet("nodes 6", all + ",0 |1");
+        wrongNet("nodes 6", all + ",|");
+        wrongNet("nodes 6", all + ",|6 1");
     }
 }
