@@ -925,6 +925,10 @@ public final class OrderlyNets {
                     pair(node, used | 1 << mate, size, ones, twos << 1 | two.fan(mate));
                 }
             }
+            leaveOut(node, used, size, ones, twos);
+        }
+
+        private void leaveOut(int node, int used, int size, long ones, long twos) {
             pairNext(node + 1, used, size, ones, twos);
         }
 

@@ -9,19 +9,25 @@ import java.util.Set;
 import java.util.TreeSet;
 import java.util.regex.Matcher;
 import java.util.regex.Pattern;
+import java.util.stream.Stream;
 
 /** The face of the class is that of the document, and the source keeps the rules that can be read off it. */
 public final class FaceTests {
+    /** The face of the document; behind each method the exceptions that it names, in their order. */
     private static final String[] METHODS = {
-        "int feed(int, int, int, int, int)", "boolean end(int)", "int kind()", "int told()", "int fault()",
-        "int level(int)", "int net(int, int, int)", "boolean joined(int, int, int, int)", "int orbit(int, int, int)",
-        "int child(int, int, int)", "int grown(int, int, int, boolean)", "boolean taken(int, int, int, boolean)",
-        "int deck(int, int, int)", "int other(int, int)", "int within(int, int, int, int)", "int rooted(int)",
-        "int turned(int, int, int, int)", "int apart(int, int, int)", "int common(int, int, int, int)",
-        "int lines(int, int)", "int twins(int)", "long named(int)", "long cycles(int, int)", "int full(int)",
-        "int form(int)", "int order(int)", "int share(int, int, int)", "int start(int, int, int, int)",
-        "int next(int)", "int walker(int, int)", "int resume(int, int)", "int text(int, int)", "int octet(int)",
-        "void image()", "boolean back()", "int count(int)",
+        "int feed(int, int, int, int, int)", "boolean end(int)", "int kind() ARGUMENT", "int told() ARGUMENT",
+        "int fault()", "int level(int) INDEX", "int net(int, int, int) INDEX ELEMENT",
+        "boolean joined(int, int, int, int) INDEX", "int orbit(int, int, int) INDEX",
+        "int child(int, int, int) INDEX", "int grown(int, int, int, boolean) INDEX ARGUMENT STATE",
+        "boolean taken(int, int, int, boolean) INDEX ARGUMENT STATE", "int deck(int, int, int) INDEX STATE",
+        "int other(int, int) INDEX", "int within(int, int, int, int) INDEX", "int rooted(int) INDEX",
+        "int turned(int, int, int, int) INDEX ARGUMENT", "int apart(int, int, int) INDEX",
+        "int common(int, int, int, int) INDEX", "int lines(int, int) INDEX", "int twins(int) INDEX STATE",
+        "long named(int) INDEX", "long cycles(int, int) ARGUMENT", "int full(int)", "int form(int) ELEMENT STATE",
+        "int order(int) STATE INDEX", "int share(int, int, int) ARGUMENT",
+        "int start(int, int, int, int) INDEX ARGUMENT", "int next(int) INDEX STATE",
+        "int walker(int, int) INDEX ELEMENT STATE", "int resume(int, int) INDEX STATE ARGUMENT",
+        "int text(int, int) INDEX", "int octet(int)", "void image()", "boolean back()", "int count(int)",
     };
     private static final String[] BANNED = {
         "->", "::", "\\btry\\b", "\\bcatch\\b", "\\bfinally\\b", "\\bassert\\b", "\\bsynchronized\\b", "Exact\\(",
@@ -32,6 +38,7 @@ public final class FaceTests {
     public static void main(String[] args) throws IOException {
         members();
         nested();
+        eachPromiseHasTests();
         source(Files.readString(Path.of("src/main/java/OrderlyNets.java")));
         Checks.end("FaceTests");
     }
@@ -47,7 +54,7 @@ public final class FaceTests {
                 for (Class<?> type : method.getParameterTypes()) {
                     shown.append(shown.length() == 0 ? "" : ", ").append(type);
                 }
-                got.add(method.getReturnType() + " " + method.getName() + "(" + shown + ")");
+                got.add(method.getReturnType() + " " + method.getName() + "(" + shown + ")" + exceptions(method));
             } else {
                 Checks.holds(method + " is private", Modifier.isPrivate(method.getModifiers()));
             }
@@ -61,6 +68,39 @@ public final class FaceTests {
             boolean isPublic = Modifier.isPublic(field.getModifiers());
             Checks.holds(field + " is private", isPublic || Modifier.isPrivate(field.getModifiers()));
             Checks.due(field + " is public", isPublic ? 1 : 0, field.getName().equals("NONE") ? 1 : 0);
+        }
+    }
+
+    private static String exceptions(Method method) {
+        StringBuilder shown = new StringBuilder();
+        for (Class<?> type : method.getExceptionTypes()) {
+            shown.append(type == Checks.INDEX ? " INDEX" : type == Checks.ARGUMENT ? " ARGUMENT"
+                    : type == Checks.STATE ? " STATE" : type == Checks.ELEMENT ? " ELEMENT" : " " + type);
+        }
+        return shown.toString();
+    }
+
+    /** Each promise has tests that bear its number. */
+    private static void eachPromiseHasTests() throws IOException {
+        StringBuilder all = new StringBuilder();
+        try (Stream<Path> files = Files.list(Path.of("src/test/java"))) {
+            for (Path file : files.filter(path -> path.toString().endsWith("Tests.java")).toList()) {
+                all.append(Files.readString(file));
+            }
+        }
+        for (int promise = 1; promise <= 37; promise++) {
+            String named = String.format("static void promise%02d_", promise);
+            Checks.holds("there is a " + named, all.indexOf(named) >= 0);
+        }
+    }
+
+    /** No method that is not static calls itself: it goes through another private one. */
+    private static void recursion(String code) {
+        Matcher method = Pattern.compile("\n {8}(?!.*static).*?(\\w+)\\([^;{}]*\\) \\{\n((?s).*?)\n {8}\\}").matcher(code);
+        while (method.find()) {
+            String name = method.group(1);
+            boolean calls = Pattern.compile("(?<![\\w.])" + name + "\\(").matcher(method.group(2)).find();
+            Checks.fails(name + " calls itself", calls);
         }
     }
 
@@ -98,6 +138,7 @@ public final class FaceTests {
             Matcher found = Pattern.compile(banned).matcher(code);
             Checks.fails("the source has " + banned, found.find());
         }
+        recursion(code);
         int last = 0;
         int length = 0;
         for (String line : text.split("\n")) {
